@@ -143,6 +143,11 @@ public final class LinkTest {
         check.link(x, "1 2", OK, -1);
         check.same("the first weak one is a DATA", x.parameters(0), -1);
         check.same("at", x.at(0), 0);
+        check.unit(x, 2, "DATA:0*2 NUM:1");
+        check.link(x, "1 2", OK, -1);
+        check.same("size", x.size(), 2);
+        check.link(x, "2 1", OK, -1);
+        check.same("size", x.size(), 2);
     }
 
     private static void duplicates(Check check) {

@@ -234,7 +234,9 @@ public final class RunTest {
         check.run(x, 0, 0, 0, OK, 23, 1);
         LinkedUnits y = check.linked("FUNC:0/1 IF LOCAL:0 RETURN" + " ADD NUM:1".repeat(19) + " CALL:0/1 SUB LOCAL:0 NUM:1 END END");
         check.run(y, 9, 0, 0, OK, 19 * 9, 10);
-        check.run(y, 10, 0, 0, DEPTH, 0, 11);
+        for (int i = 0; i < 10; i++) {
+            check.run(y, 10, 0, 0, DEPTH, 0, 11);
+        }
         check.run(y, 9, 0, 0, OK, 19 * 9, 10);
     }
 }
