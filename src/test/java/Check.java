@@ -7,12 +7,18 @@ final class Check {
 
     private int wrong = 0;
     private int asked = 0;
+    private String sentence = "";
+
+    /** Names the sentence of the document that the next answers are due to. */
+    void sentence(String words) {
+        sentence = " (" + words + ")";
+    }
 
     void same(String what, long got, long want) {
         asked++;
         if (got != want) {
             wrong++;
-            System.out.println(what + " answered " + got + ", due is " + want);
+            System.out.println(what + " answered " + got + ", due is " + want + sentence);
         }
     }
 
@@ -97,12 +103,40 @@ final class Check {
         same("culprit() of " + list, x.culprit(), culprit);
     }
 
+    /** A new object with units 0, 1, .. of these texts. */
+    LinkedUnits units(String... texts) {
+        LinkedUnits x = new LinkedUnits();
+        for (int u = 0; u < texts.length; u++) {
+            unit(x, u, texts[u]);
+        }
+        return x;
+    }
+
     /** A new object with the one unit of this text linked. */
     LinkedUnits linked(String text) {
-        LinkedUnits x = new LinkedUnits();
-        unit(x, 0, text);
+        LinkedUnits x = units(text);
         link(x, "0", LinkedUnits.OK, -1);
         return x;
+    }
+
+    /** All that can be seen without a change: some 80 of the 512 calls that an object is good for. */
+    static String seen(LinkedUnits x) {
+        StringBuilder text = new StringBuilder("place " + x.place() + " culprit " + x.culprit()
+            + " size " + x.size() + " result " + x.result() + " steps " + x.steps() + " names");
+        for (int name = 0; name < 12; name++) {
+            text.append(" ").append(x.at(name)).append("/").append(x.parameters(name));
+        }
+        text.append(" words");
+        for (int place = 0; place < 48; place++) {
+            text.append(" ").append(x.peek(place));
+        }
+        return text.toString();
+    }
+
+    /** Asks that calls show what they showed before. */
+    void unchanged(String what, LinkedUnits x, String before) {
+        String now = seen(x);
+        same(what + " leaves [" + before + "], not [" + now + "]:", now.equals(before), true);
     }
 
     /** Runs function 0 and asks for the answer, the result and the steps. */

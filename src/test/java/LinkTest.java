@@ -24,15 +24,6 @@ public final class LinkTest {
         check.end("LinkTest");
     }
 
-    /** A new object with units 0, 1, .. of these texts. */
-    private static LinkedUnits units(Check check, String... texts) {
-        LinkedUnits x = new LinkedUnits();
-        for (int u = 0; u < texts.length; u++) {
-            check.unit(x, u, texts[u]);
-        }
-        return x;
-    }
-
     private static void including(Check check) {
         LinkedUnits x = new LinkedUnits();
         for (int u : new int[] {-1, 5, Integer.MIN_VALUE, Integer.MAX_VALUE}) {
@@ -49,7 +40,7 @@ public final class LinkTest {
     }
 
     private static void listIsEmptyAfterwards(Check check) {
-        LinkedUnits x = units(check, "FUNC:0/3 END", "FUNC:1 DO CALL:2 END", "FUNC:0 END",
+        LinkedUnits x = check.units("FUNC:0/3 END", "FUNC:1 DO CALL:2 END", "FUNC:0 END",
             "FUNC:5 DO NAME:0 END", "DATA:1*8 NUM:0 DATA:2*8 NUM:0 DATA:3*8 NUM:0 DATA:4*8 NUM:0 DATA:5*8 NUM:0 DATA:6*8 NUM:0 DATA:7 NUM:0");
         check.link(x, "0", OK, -1);
         check.same("parameters", x.parameters(0), 3);
@@ -63,7 +54,7 @@ public final class LinkTest {
     }
 
     private static void unitsAsTheyAreAtLinking(Check check) {
-        LinkedUnits x = units(check, "FUNC:0 END");
+        LinkedUnits x = check.units("FUNC:0 END");
         check.same("include", x.include(0, false), true);
         check.unit(x, 0, "FUNC:1/2 END");
         check.link(x, "", OK, -1);
@@ -72,7 +63,7 @@ public final class LinkTest {
     }
 
     private static void libraries(Check check) {
-        LinkedUnits x = units(check, "FUNC:0 RETURN CALL:1 END", "FUNC:1 RETURN NUM:5 END DATA:6*2 NUM:1",
+        LinkedUnits x = check.units("FUNC:0 RETURN CALL:1 END", "FUNC:1 RETURN NUM:5 END DATA:6*2 NUM:1",
             "FUNC:2 END DATA:7 NUM:1", "FUNC:3 RETURN NAME:7 END");
         check.link(x, "0 1L 2L", OK, -1);
         check.same("size with 1 only", x.size(), 2);
@@ -96,7 +87,7 @@ public final class LinkTest {
     }
 
     private static void librariesGoneThroughOnce(Check check) {
-        LinkedUnits x = units(check, "FUNC:0 DO CALL:1 END", "FUNC:1 DO CALL:2 END", "FUNC:2 DO CALL:3 END", "FUNC:3 END");
+        LinkedUnits x = check.units("FUNC:0 DO CALL:1 END", "FUNC:1 DO CALL:2 END", "FUNC:2 DO CALL:3 END", "FUNC:3 END");
         check.link(x, "0 1L 2L 3L", OK, -1);
         check.same("parameters(3)", x.parameters(3), 0);
         check.link(x, "0 2L 1L 3L", MISSING, 2);
@@ -105,7 +96,7 @@ public final class LinkTest {
     }
 
     private static void librariesLookAtTakenUnitsOnly(Check check) {
-        LinkedUnits x = units(check, "FUNC:0 DO CALL:1 END FUNC:1w RETURN NUM:1 END", "FUNC:1 RETURN NUM:2 END DATA:5 NUM:0",
+        LinkedUnits x = check.units("FUNC:0 DO CALL:1 END FUNC:1w RETURN NUM:1 END", "FUNC:1 RETURN NUM:2 END DATA:5 NUM:0",
             "FUNC:4 DO NAME:5 END", "DATA:5*4 NUM:0", "FUNC:1/1w END DATA:9 NUM:0 FUNC:8 DO CALL:8 END");
         check.link(x, "0 1L", OK, -1);
         check.same("defined already, weakly", x.size(), 0);
@@ -122,7 +113,7 @@ public final class LinkTest {
     }
 
     private static void weakDefinitions(Check check) {
-        LinkedUnits x = units(check, "FUNC:0w RETURN NUM:1 END DATA:5*2w NUM:1", "FUNC:0 RETURN NUM:2 END DATA:5*3 NUM:2",
+        LinkedUnits x = check.units("FUNC:0w RETURN NUM:1 END DATA:5*2w NUM:1", "FUNC:0 RETURN NUM:2 END DATA:5*3 NUM:2",
             "FUNC:0w RETURN NUM:3 END DATA:5*4w NUM:3");
         check.link(x, "0 1 2", OK, -1);
         check.run(x, 0, 0, 0, OK, 2, 1);
@@ -151,7 +142,7 @@ public final class LinkTest {
     }
 
     private static void duplicates(Check check) {
-        LinkedUnits x = units(check, "FUNC:7 END DATA:3 NUM:1 FUNC:4w END", "FUNC:7 END FUNC:3/2 END FUNC:4 END",
+        LinkedUnits x = check.units("FUNC:7 END DATA:3 NUM:1 FUNC:4w END", "FUNC:7 END FUNC:3/2 END FUNC:4 END",
             "FUNC:0 DO CALL:1 END", "FUNC:4 END DATA:8 NUM:1", "FUNC:3w END FUNC:7w END");
         check.link(x, "0 1", DUPLICATE, 3);
         check.link(x, "1 0", DUPLICATE, 3);
@@ -168,7 +159,7 @@ public final class LinkTest {
     }
 
     private static void missing(Check check) {
-        LinkedUnits x = units(check, "FUNC:0 DO CALL:9 DO NAME:5 DO AT:7 END", "DATA:5 NUM:1", "FUNC:9 END", "DATA:7 NUM:1");
+        LinkedUnits x = check.units("FUNC:0 DO CALL:9 DO NAME:5 DO AT:7 END", "DATA:5 NUM:1", "FUNC:9 END", "DATA:7 NUM:1");
         check.link(x, "0", MISSING, 5);
         check.link(x, "0 1", MISSING, 7);
         check.link(x, "0 1 3", MISSING, 9);
@@ -178,7 +169,7 @@ public final class LinkTest {
     }
 
     private static void mismatches(Check check) {
-        LinkedUnits x = units(check, "FUNC:0 DO CALL:1/2 NUM:1 NUM:2 END", "FUNC:1/2 END", "FUNC:1/1 END", "DATA:1 NUM:1", "FUNC:2 DO NAME:1 END");
+        LinkedUnits x = check.units("FUNC:0 DO CALL:1/2 NUM:1 NUM:2 END", "FUNC:1/2 END", "FUNC:1/1 END", "DATA:1 NUM:1", "FUNC:2 DO NAME:1 END");
         check.link(x, "0 1", OK, -1);
         check.link(x, "0 2", MISMATCH, 1);
         check.link(x, "0 3", MISMATCH, 1);
@@ -202,7 +193,7 @@ public final class LinkTest {
     }
 
     private static void nameByName(Check check) {
-        LinkedUnits x = units(check, "FUNC:0 DO CALL:4 DO NAME:5 END", "FUNC:5 END", "DATA:4 NUM:1", "FUNC:4 END", "DATA:5 NUM:1");
+        LinkedUnits x = check.units("FUNC:0 DO CALL:4 DO NAME:5 END", "FUNC:5 END", "DATA:4 NUM:1", "FUNC:4 END", "DATA:5 NUM:1");
         check.link(x, "0 1", MISSING, 4);
         check.link(x, "0 2", MISMATCH, 4);
         check.link(x, "0 1 2", MISMATCH, 4);
@@ -214,7 +205,7 @@ public final class LinkTest {
 
     private static void large(Check check) {
         String forty = "DATA:0*8 NUM:0 DATA:1*8 NUM:1 DATA:2*8 NUM:2 DATA:3*8 NUM:3 DATA:4*8 NUM:4";
-        LinkedUnits x = units(check, forty, "DATA:5*8 NUM:5", "DATA:6 NUM:6", "DATA:4*8w NUM:1 DATA:7*7 NUM:7", "FUNC:11 DO NAME:10 END");
+        LinkedUnits x = check.units(forty, "DATA:5*8 NUM:5", "DATA:6 NUM:6", "DATA:4*8w NUM:1 DATA:7*7 NUM:7", "FUNC:11 DO NAME:10 END");
         check.link(x, "0 1", OK, -1);
         check.same("size", x.size(), 48);
         check.link(x, "0 1 2", LARGE, -1);
@@ -230,7 +221,7 @@ public final class LinkTest {
     }
 
     private static void faultLeavesWhatWasLinked(Check check) {
-        LinkedUnits x = units(check, "FUNC:0/1 PUT AT:5 LOCAL:0 RETURN NAME:5 END DATA:5*2 NUM:4", "FUNC:1 DO CALL:2 END DATA:3 NUM:1",
+        LinkedUnits x = check.units("FUNC:0/1 PUT AT:5 LOCAL:0 RETURN NAME:5 END DATA:5*2 NUM:4", "FUNC:1 DO CALL:2 END DATA:3 NUM:1",
             "FUNC:0/2 END", "FUNC:4 DO CALL:5 END");
         check.link(x, "0", OK, -1);
         check.same("poke", x.poke(1, 9), true);
@@ -252,7 +243,7 @@ public final class LinkTest {
     }
 
     private static void placesInOrder(Check check) {
-        LinkedUnits x = units(check, "DATA:9*2 NUM:90 FUNC:1 END DATA:3*3 NUM:30", "DATA:5 NUM:50 DATA:3*4w NUM:31 DATA:0*2w NUM:1", "DATA:0*5 NUM:2");
+        LinkedUnits x = check.units("DATA:9*2 NUM:90 FUNC:1 END DATA:3*3 NUM:30", "DATA:5 NUM:50 DATA:3*4w NUM:31 DATA:0*2w NUM:1", "DATA:0*5 NUM:2");
         check.link(x, "1 0 2", OK, -1);
         check.same("at(5)", x.at(5), 0);
         check.same("at(9)", x.at(9), 1);
@@ -272,7 +263,7 @@ public final class LinkTest {
     }
 
     private static void linkedNames(Check check) {
-        LinkedUnits x = units(check, "FUNC:0 END FUNC:1/1 END FUNC:2/2w END FUNC:11/3 END DATA:4*8w NUM:1 DATA:10*3 NUM:2");
+        LinkedUnits x = check.units("FUNC:0 END FUNC:1/1 END FUNC:2/2w END FUNC:11/3 END DATA:4*8w NUM:1 DATA:10*3 NUM:2");
         check.link(x, "0", OK, -1);
         int[] parameters = {0, 1, 2, -1, -1, -1, -1, -1, -1, -1, -1, 3};
         int[] places = {-1, -1, -1, -1, 0, -1, -1, -1, -1, -1, 8, -1};
