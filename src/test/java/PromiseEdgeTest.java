@@ -23,6 +23,8 @@ public final class PromiseEdgeTest {
         draftIsEmptyAfterwards(check);
         unitStaysAfterAFault(check);
         badThenSyntaxThenTwice(check);
+        unitBecomesShorter(check);
+        lastUnitFullOrEmpty(check);
         unitLeavesWhatIsLinked(check);
         noPlaceYet(check);
         placeOfTheLatestFault(check);
@@ -230,6 +232,34 @@ public final class PromiseEdgeTest {
         check.same("place() after BAD", x.place(), 4);
         check.same("unit(0)", x.unit(0), TWICE);
         check.same("place()", x.place(), 2);
+    }
+
+    private static void unitBecomesShorter(Check check) {
+        check.sentence("Unit u becomes what is drafted");
+        for (String text : new String[] {"DATA:1 NUM:1", "FUNC:1 END", ""}) {
+            LinkedUnits x = check.units("FUNC:0 DO CALL:4 END", "FUNC:2 END", "", "", "DATA:3 NUM:1 FUNC:4 DO CALL:9 END DATA:5 NUM:1");
+            check.link(x, "0 4L", MISSING, 9);
+            check.unit(x, 4, text);
+            check.link(x, "0 4L", MISSING, 4);
+            check.link(x, "0 4", MISSING, 4);
+            check.link(x, "1 4", OK, -1);
+            for (int name = 3; name < 12; name++) {
+                check.same("at(" + name + ")", x.at(name), -1);
+                check.same("parameters(" + name + ")", x.parameters(name), -1);
+            }
+        }
+    }
+
+    private static void lastUnitFullOrEmpty(Check check) {
+        check.sentence("BAD .. if u is outside 0..4");
+        LinkedUnits x = check.units("FUNC:0 RETURN CALL:4 END");
+        check.unit(x, 4, "FUNC:5" + " DO NUM:1".repeat(22) + " END FUNC:4 RETURN NUM:3 END");
+        check.link(x, "0 4L", OK, -1);
+        check.run(x, 0, 0, 0, OK, 3, 2);
+        check.link(x, "4L 0", MISSING, 4);
+        check.link(x, "4", OK, -1);
+        check.unit(x, 4, "");
+        check.link(x, "0 4L", MISSING, 4);
     }
 
     private static void unitLeavesWhatIsLinked(Check check) {

@@ -14,6 +14,7 @@ public final class RunningEdgeTest {
         localsOfEachCall(check);
         truth(check);
         endings(check);
+        endingsOfBlocks(check);
         onlyWorkedOut(check);
         fromTheFirstToTheLast(check);
         firstWordAndPlace(check);
@@ -87,6 +88,17 @@ public final class RunningEdgeTest {
         LinkedUnits x = check.linked("FUNC:0 RETURN ADD CALL:1 CALL:2 END FUNC:1 WHILE NUM:1 IF NUM:1 RETURN NUM:30 END END END FUNC:2 DO NUM:9 END");
         check.run(x, 0, 0, 0, OK, 30, 4);
         check.runOf(x, 2, new int[3], OK, 0, 1);
+        LinkedUnits y = check.linked("FUNC:0 RETURN SUB NUM:100 MUL NUM:7 SUB CALL:1 NUM:2 END FUNC:1 END");
+        check.run(y, 0, 0, 0, OK, 114, 2);
+    }
+
+    private static void endingsOfBlocks(Check check) {
+        check.sentence("IF, WHILE: E is true if it is not 0");
+        String blocks = " FUNC:1/1 IF LOCAL:0 SET:1 NUM:1 ELSE SET:1 NUM:2 END IF LOCAL:0 SET:2 NUM:10 END"
+            + " WHILE LOCAL:0 SET:0 NUM:0 END RETURN ADD LOCAL:1 LOCAL:2 END";
+        LinkedUnits x = check.linked("FUNC:0/1 RETURN SUB NUM:100 SUB CALL:1/1 LOCAL:0 NUM:50 END" + blocks);
+        check.run(x, 0, 0, 0, OK, 148, 3);
+        check.run(x, 1, 0, 0, OK, 139, 4);
     }
 
     private static void onlyWorkedOut(Check check) {
