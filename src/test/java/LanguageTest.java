@@ -1,6 +1,10 @@
+import com.sun.source.tree.ArrayAccessTree;
 import com.sun.source.tree.ArrayTypeTree;
+import com.sun.source.tree.AssignmentTree;
+import com.sun.source.tree.BinaryTree;
 import com.sun.source.tree.ClassTree;
 import com.sun.source.tree.CompilationUnitTree;
+import com.sun.source.tree.CompoundAssignmentTree;
 import com.sun.source.tree.ExpressionTree;
 import com.sun.source.tree.ForLoopTree;
 import com.sun.source.tree.IdentifierTree;
@@ -10,6 +14,8 @@ import com.sun.source.tree.MethodTree;
 import com.sun.source.tree.NewArrayTree;
 import com.sun.source.tree.PrimitiveTypeTree;
 import com.sun.source.tree.Tree;
+import com.sun.source.tree.TypeCastTree;
+import com.sun.source.tree.UnaryTree;
 import com.sun.source.tree.VariableTree;
 import com.sun.source.util.JavacTask;
 import com.sun.source.util.TreeScanner;
@@ -47,6 +53,7 @@ public final class LanguageTest {
 
     private final Check check = new Check();
     private final Map<String, Set<String>> calls = new TreeMap<>();
+    private final Set<String> arrayFields = new TreeSet<>();
 
     public static void main(String[] args) throws Exception {
         LanguageTest test = new LanguageTest();
@@ -81,6 +88,10 @@ public final class LanguageTest {
                 && (field.getType() == int.class || field.getType() == long.class);
             holds(field + " is a constant or not static", isConstant || !Modifier.isStatic(modifiers));
             fields += isConstant ? 0 : 1;
+            if (field.getType().isArray()) {
+                arrayFields.add(field.getName());
+            }
+            holds(field + ", an array, is never assigned to", !field.getType().isArray() || Modifier.isFinal(modifiers));
             if (!Modifier.isPrivate(modifiers)) {
                 holds(field + " is public", Modifier.isPublic(modifiers) && isConstant);
                 constants.add(field.getName() + "=" + field.getInt(null));
@@ -92,6 +103,7 @@ public final class LanguageTest {
         holds("methods " + methods, methods.equals(new TreeSet<>(Arrays.asList(METHODS))));
         holds("constants " + constants, constants.equals(new TreeSet<>(Arrays.asList(CONSTANTS))));
         holds("some forty fields, not " + fields, fields <= 40);
+        holds("no class inside", LinkedUnits.class.getDeclaredClasses().length == 0);
         holds("public final", LinkedUnits.class.getModifiers() == (Modifier.PUBLIC | Modifier.FINAL));
     }
 
@@ -115,6 +127,10 @@ public final class LanguageTest {
             new Rules().scan(type, null);
             arrays(type);
             for (Tree member : type.getMembers()) {
+                holds("a field or a method: " + member, member instanceof VariableTree || member instanceof MethodTree);
+                if (member instanceof VariableTree) {
+                    field((VariableTree) member);
+                }
                 if (member instanceof MethodTree) {
                     method((MethodTree) member);
                 }
@@ -143,8 +159,45 @@ public final class LanguageTest {
 
         @Override
         public Void visitForLoop(ForLoopTree loop, Void nothing) {
-            holds("a counter in " + loop, loop.getInitializer().size() == 1 && loop.getUpdate().size() == 1 && loop.getCondition() != null);
+            boolean hasCounter = loop.getInitializer().size() == 1 && loop.getInitializer().get(0) instanceof VariableTree
+                && loop.getUpdate().size() == 1 && loop.getCondition() != null;
+            holds("a counter in " + loop, hasCounter);
+            if (hasCounter) {
+                String counter = ((VariableTree) loop.getInitializer().get(0)).getName().toString();
+                String update = loop.getUpdate().get(0).toString();
+                String condition = loop.getCondition().toString().replace("(", "");
+                holds("the counter goes up or down in " + loop,
+                    (update.equals(counter + "++;") && condition.startsWith(counter + " < "))
+                    || (update.equals(counter + "--;") && condition.startsWith(counter + " >= ")));
+                holds("only the loop itself moves its counter: " + loop, !changed(loop.getStatement()).contains(counter));
+            }
             return super.visitForLoop(loop, nothing);
+        }
+
+        @Override
+        public Void visitPrimitiveType(PrimitiveTypeTree type, Void nothing) {
+            holds("a whole number or a boolean: " + type, isAllowed(type) || type.toString().equals("void"));
+            return super.visitPrimitiveType(type, nothing);
+        }
+
+        @Override
+        public Void visitTypeCast(TypeCastTree cast, Void nothing) {
+            holds("a cast between numbers: " + cast, isAllowed(cast.getType()));
+            return super.visitTypeCast(cast, nothing);
+        }
+
+        // An array that is only ever indexed is neither answered, compared nor given another name.
+        @Override
+        public Void visitArrayAccess(ArrayAccessTree access, Void nothing) {
+            boolean isField = access.getExpression() instanceof IdentifierTree;
+            holds("an array field in " + access, isField && arrayFields.contains(access.getExpression().toString()));
+            return scan(access.getIndex(), nothing);
+        }
+
+        @Override
+        public Void visitIdentifier(IdentifierTree identifier, Void nothing) {
+            holds("an index behind " + identifier, !arrayFields.contains(identifier.toString()));
+            return super.visitIdentifier(identifier, nothing);
         }
 
         @Override
@@ -156,6 +209,47 @@ public final class LanguageTest {
                 holds("no call in the arguments of " + call, inside.isEmpty());
             }
             return super.visitMethodInvocation(call, nothing);
+        }
+    }
+
+    // The names that a statement assigns to or counts up or down.
+    private static Set<String> changed(Tree tree) {
+        Set<String> names = new TreeSet<>();
+        new TreeScanner<Void, Void>() {
+            @Override
+            public Void visitAssignment(AssignmentTree assignment, Void nothing) {
+                names.add(assignment.getVariable().toString());
+                return super.visitAssignment(assignment, nothing);
+            }
+
+            @Override
+            public Void visitCompoundAssignment(CompoundAssignmentTree assignment, Void nothing) {
+                names.add(assignment.getVariable().toString());
+                return super.visitCompoundAssignment(assignment, nothing);
+            }
+
+            @Override
+            public Void visitUnary(UnaryTree unary, Void nothing) {
+                boolean isChange = unary.getKind().name().contains("CREMENT");
+                if (isChange) {
+                    names.add(unary.getExpression().toString());
+                }
+                return super.visitUnary(unary, nothing);
+            }
+        }.scan(tree, null);
+        return names;
+    }
+
+    private void field(VariableTree field) {
+        if (field.getModifiers().getFlags().contains(javax.lang.model.element.Modifier.STATIC)) {
+            new TreeScanner<Void, Void>() {
+                @Override
+                public Void scan(Tree tree, Void nothing) {
+                    holds("a constant: " + field, tree == null || tree instanceof LiteralTree || tree instanceof IdentifierTree
+                        || tree instanceof BinaryTree || tree instanceof UnaryTree);
+                    return super.scan(tree, nothing);
+                }
+            }.scan(field.getInitializer(), null);
         }
     }
 
